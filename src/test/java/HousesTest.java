@@ -79,7 +79,10 @@ public final class HousesTest {
         Due.due("stands by 33", y.stands(0, 0, 33), 99);
         Due.due("stands by 34", y.stands(0, 0, 34), 3);
         Due.due("changes", y.changes(0, 0), 2);
-        // 5 lies between: 20000 again is near, but the years ahead are not
+        // 10500, then 10000: 5 of 100 are just enough
+        LadderSky u = Due.told("base 1000;base 1000;away 210;has 0 0 20 0;has 0 1 21 5;", "use 0;use 1;way last;");
+        Due.due("stands by 5", u.stands(0, 0, 5), 0);
+        Due.due("stands by 4", u.stands(0, 0, 4), 5);
         LadderSky z = Due.told("base 1000;on 0;away 100;away 100;has 0 1 10 0;has 0 0 10 7;has 1 0 5 50;", "use 1;", "use 0;use 1;way last;", "use 0;throw slower 100;throw nearer 6;");
         Due.due("the rung below came later", z.since(0, 0), 7);
         Due.due("stands since", z.stands(0, 0, 0), 7);
@@ -114,6 +117,10 @@ public final class HousesTest {
         // 333.3 and 333.9 are both 333, cut
         LadderSky y = Due.told("base 1000;base 1000;away 1;away 1;has 0 0 3 0;has 0 1 4 0;has 1 0 1000 0;has 1 1 1333 0;", "use 0;", "use 1;");
         Due.due("cut alike: the least", y.across(0, 0, 1, 0), 0);
+        y.has(0, 1, 0, 9999, 0);
+        y.has(0, 1, 1, 6660, 0);
+        Due.due("333.9 is cut, too", y.across(0, 0, 1, 0), 0);
+        y.has(0, 1, 0, 1000, 0);
         y.has(0, 1, 1, 1334, 0);
         Due.due("334", y.across(0, 0, 1, 0), 1);
     }

@@ -224,6 +224,33 @@ public final class LineTest {
         LadderSky y = Due.told("base 1000;base 1;away 1;has 0 0 100 0;", "use 0;throw farther 100;");
         Due.due("thrown with one more", y.up(0, 0, 0, 0), NO);
         Due.due("the other has an up", y.worst(0, 0, 0), 1);
+        LadderSky z = Due.told("base 1000;away 1;has 0 0 100 0;", "use 0;throw farther 100;");
+        Due.due("no rung has one", z.worst(0, 0, 0), -1);
+    }
+
+    /** Six rungs one on the other, 24 things that all have the last. */
+    private static void allThatMayBe() {
+        LadderSky x = Due.told("base 1000;on 0;on 1;on 2;on 3;on 4;" + "away 100;".repeat(24), "use 5;", "use 0;use 1;use 2;use 3;use 4;use 5;way last;");
+        for (int rung = 0; rung < 6; rung++) {
+            x.has(0, rung, rung, 10, 0);
+            x.has(0, Math.max(0, rung - 1), rung, 5, 0);
+        }
+        x.has(0, 0, 0, 10, 0);
+        for (int thing = 0; thing < 24; thing++) {
+            x.has(0, thing, 5, 1, 0);
+        }
+        // each step doubles: 10 by 5; the last: 160 and 80 by 1 and 1
+        int[] scales = {1000, 2000, 4000, 8000, 16000, 120000};
+        for (int rung = 0; rung < 6; rung++) {
+            Due.due("scale " + rung, x.scale(0, 0, 0, rung), scales[rung]);
+        }
+        Due.due("things", x.line(0, 0, 0, 0), 24);
+        Due.due("H", x.line(0, 0, 0, 1), 833);
+        Due.due("last", x.far(0, 1, 0, 4, -1), 120);
+        Due.due("up 5: 826 less 833", x.up(0, 0, 0, 5), -7);
+        Due.due("worst", x.worst(0, 0, 0), 5);
+        Due.due("odd", x.odd(0, 0, 0, false), 0);
+        Due.due("low", x.span(0, 0, 0, false), 833);
     }
 
     public static void main(String[] args) {
@@ -234,6 +261,7 @@ public final class LineTest {
         theLine();
         one();
         leansGoUp();
+        allThatMayBe();
         Due.close("LineTest");
     }
 }

@@ -19,12 +19,15 @@ public final class ModelTest {
     private final Map<String, Method> plain = methods(PlainSky.class);
     private final List<String> told = new ArrayList<>();
     private final boolean bold;
+    /** As many rungs and things as may be, and most entries. */
+    private final boolean full;
     private int calls = 0;
     private int wrong = 0;
 
     private ModelTest(long seed) {
         random = new Random(seed);
         bold = random.nextInt(4) == 0;
+        full = random.nextInt(20) == 0;
     }
 
     private static Map<String, Method> methods(Class<?> of) {
@@ -119,8 +122,8 @@ public final class ModelTest {
 
     private String catalogue() {
         StringBuilder s = new StringBuilder();
-        int rungs = 1 + below(5);
-        int things = 1 + below(below(3) == 0 ? 14 : 8);
+        int rungs = full ? 6 : 1 + below(5);
+        int things = full ? 24 : 1 + below(below(3) == 0 ? 14 : 8);
         for (int r = 0; r < rungs; r++) {
             int kind = r == 0 ? 0 : below(4);
             int scale = below(3) == 0 ? number(1, 9999) : 1000;
@@ -317,10 +320,13 @@ public final class ModelTest {
         tell(1, -1);
         tell(1, -1);
         tell(2, -1);
+        for (int i = 0; full && i < 100; i++) {
+            call("has", 0, below(24), below(6), rawish(), yearish());
+        }
         if (below(2) == 0) {
             call("make", 0, -1, random.nextInt());
         }
-        while (calls < 380) {
+        while (calls < (full ? 500 : 380)) {
             if (below(6) == 0) {
                 change();
             } else {

@@ -449,17 +449,19 @@ final class PlainSky {
         if (c.on.get(rung) == null) {
             s = big(c.scale.get(rung));
         } else {
+            int other = c.on.get(rung);
+            Long otherScale = scaleOf(c, h, year, other);
             long fars = 0;
             long raws = 0;
             for (int t = 0; t < c.speeds.size(); t++) {
-                Long far = farBy(c, h, year, t, c.on.get(rung));
+                Integer otherRaw = c.raw(t, other, year);
                 Integer raw = c.raw(t, rung, year);
-                if (far != null && raw != null && !h.cast.contains(t)) {
-                    fars += far;
+                if (otherRaw != null && raw != null && !h.cast.contains(t)) {
+                    fars += otherScale == null ? 0 : farWith(otherRaw, otherScale);
                     raws += raw;
                 }
             }
-            if (raws == 0) {
+            if (raws == 0 || otherScale == null) {
                 return null;
             }
             s = big(1000).multiply(big(fars)).divide(big(raws));
@@ -470,7 +472,11 @@ final class PlainSky {
     private static Long farBy(Cat c, Hou h, int year, int thing, int rung) {
         Integer raw = c.raw(thing, rung, year);
         Long s = raw == null ? null : scaleOf(c, h, year, rung);
-        return s == null ? null : Long.valueOf(Math.min(9999999, raw * s / 1000));
+        return s == null ? null : Long.valueOf(farWith(raw, s));
+    }
+
+    private static long farWith(long raw, long s) {
+        return Math.min(9999999, raw * s / 1000);
     }
 
     private static Long farOf(Cat c, Hou h, int year, int thing, TreeSet<Integer> uses, String way) {

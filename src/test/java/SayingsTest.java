@@ -112,6 +112,9 @@ public final class SayingsTest {
             x.say(0, 0, d[0], d[1]);
             Due.due("wider than " + d[0] + " to " + d[1], x.kept(0, 2), d[2]);
         }
+        LadderSky y = Due.told("base 1000;away 505;has 0 0 1 0;", "use 0;");
+        y.say(0, 0, -51, 50);
+        Due.due("1000001 is too much", y.kept(0, 2), -1);
         LadderSky x = Due.told("base 1000;away 90;has 0 0 10 0;", "use 0;");
         x.say(0, 0, 9001, 9002);
         x.say(0, 0, 9001, 10000);

@@ -55,6 +55,9 @@ public final class SkyTest {
         Due.due("not at 2", y.seen(0, 2), 0);
         Due.due("none at 2", y.chosen(0, 2, false, false), -1);
         Due.due("but to 2", y.chosen(0, 2, true, false), 1);
+        // 9990000 against 6244 * 1600 and 6243 * 1600
+        Due.due("just not", told("light 999 1;limit 6244;").seen(0, 40), 0);
+        Due.due("just", told("light 999 1;limit 6243;").seen(0, 40), 1);
     }
 
     private static void making() {
@@ -133,7 +136,7 @@ public final class SkyTest {
             sum += x.worlds(0, 0, Integer.MAX_VALUE - 1 + i, 1, 0);
         }
         Due.due("seeds go round", x.worlds(0, 0, Integer.MAX_VALUE - 1, 4, 0), sum);
-        int[][] wrong = {{1, 0, 1, 0}, {-1, 0, 1, 0}, {0, 2, 1, 0}, {0, -1, 1, 0}, {0, 0, 0, 0}, {0, 0, 21, 0}, {0, 0, 1, 3}, {0, 0, 1, -1}};
+        int[][] wrong = {{1, 0, 1, 0}, {-1, 0, 1, 0}, {0, 2, 1, 0}, {0, -1, 1, 0}, {0, 0, 0, 0}, {0, 0, 21, 0}, {0, 0, 20, 3}, {0, 0, 20, -1}};
         for (int[] w : wrong) {
             Due.due("worlds of none", x.worlds(w[0], w[1], 9, w[2], w[3]), -1);
         }

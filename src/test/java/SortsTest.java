@@ -54,7 +54,17 @@ public final class SortsTest {
         LadderSky z = Due.told("base 1;base 1000;away 1;away 1;away 1;away 1;has 0 0 9999 0;has 1 0 9999 0;has 2 0 1000 0;has 3 0 1000 0;"
             + "has 0 1 1 0;has 1 1 2 0;has 2 1 1 0;has 3 1 3 0;", "use 1;");
         rows("not cut", z, 0, 0, 0, new int[][] {{0, 3}, {2, 0}, {3, 3}, {10, 0}, {11, 1}, {12, 2}, {13, 3}});
+        z.has(0, 3, 1, 1, 0);
+        z.has(0, 1, 1, 1, 0);
+        rows("0 0 1 1", z, 0, 0, 0, new int[][] {{0, 2}, {2, 0}, {3, 1}});
         Due.due("middle of 0", z.heaps(0, 0, 0, 0, 999), 0b1100);
+    }
+
+    private static void zeros() {
+        LadderSky x = Due.told("base 1;base 1000;away 1;away 1;has 0 0 9999 0;has 1 0 9999 0;has 0 1 1 0;has 1 1 1 0;", "use 1;");
+        rows("zeros", x, 0, 0, 0, new int[][] {{0, 1}, {1, 2}, {2, 0}, {3, 0}, {10, 0}, {11, 1}});
+        Due.due("alike", x.alike(0, 0, 0, 0), 2);
+        Due.due("nothing is more", x.heaps(0, 0, 0, 0, 1), 0);
     }
 
     private static void choice() {
@@ -89,6 +99,7 @@ public final class SortsTest {
     public static void main(String[] args) {
         twoSorts();
         equals();
+        zeros();
         choice();
         many();
         Due.close("SortsTest");

@@ -84,7 +84,11 @@ public final class TextTest {
             Due.due("count", x.count(sort), most[sort]);
         }
         for (int sort : new int[] {-1, 3, Integer.MAX_VALUE, Integer.MIN_VALUE}) {
-            Due.due("sort " + sort, Due.tell(x, sort, -1, texts[0]), -2);
+            for (String text : texts) {
+                Due.due("sort " + sort, Due.tell(x, sort, -1, text), -2);
+                Due.due("sort " + sort + " in place", Due.tell(x, sort, 0, text), -2);
+                Due.due("sort " + sort + " first of all", Due.tell(new LadderSky(), sort, -1, text), -2);
+            }
         }
     }
 
@@ -140,6 +144,12 @@ public final class TextTest {
         faulty(CATALOGUE, "Base 1;", 1, 0);
         faulty(CATALOGUE, " basex 1;", 1, 1);
         faulty(CATALOGUE, "bas 1;", 1, 0);
+        faulty(CATALOGUE, "basez 1;", 1, 0);
+        faulty(CATALOGUE, "basea 1;", 1, 0);
+        faulty(CATALOGUE, "base` 1;", 1, 4);
+        faulty(CATALOGUE, "base{ 1;", 1, 4);
+        faulty(CATALOGUE, "base /1;", 1, 5);
+        faulty(CATALOGUE, "base 1:;", 1, 6);
         faulty(CATALOGUE, "base 1x;", 1, 6);
         faulty(CATALOGUE, "base 1;;", 1, 7);
         faulty(CATALOGUE, ";", 1, 0);
@@ -163,7 +173,21 @@ public final class TextTest {
         faulty(HOUSE, "throw", 1, 5);
         faulty(SKY, "light 5;", 1, 7);
         faulty(SKY, "use 1;", 1, 0);
+        faulty(SKY, "light 1 1;;", 1, 10);
+        faulty(HOUSE, "use 1;;", 1, 6);
         faulty(SKY, "speed speed;", 1, 6);
+    }
+
+    /** What an earlier text had behind a shorter one's end is not read. */
+    private static void leftovers() {
+        LadderSky x = new LadderSky();
+        String[][] pairs = {{"base 12;", "base 1", "6"}, {"basex 1;", "base", "4"}, {"base  1;", "base ", "5"}, {"base 1;;", "base 1", "6"}};
+        for (String[] pair : pairs) {
+            Due.tell(x, 0, -1, pair[0]);
+            Due.due("text " + pair[1] + " behind " + pair[0], Due.tell(x, 0, -1, pair[1]), -1);
+            Due.due("fault", x.fault(0), 1);
+            Due.due("place", x.fault(1), Integer.parseInt(pair[2]));
+        }
     }
 
     private static void catalogueNumbers() {
@@ -186,6 +210,8 @@ public final class TextTest {
         sound(CATALOGUE, "stone 1;".repeat(4) + "away 1;".repeat(24) + "base 1;".repeat(6));
         faulty(CATALOGUE, "toward 1;".repeat(25), 3, 216);
         faulty(CATALOGUE, "base 1;" + "on 0;".repeat(6), 3, 32);
+        faulty(CATALOGUE, "base 1;".repeat(7), 3, 42);
+        faulty(CATALOGUE, "away 1;".repeat(25), 3, 168);
         faulty(CATALOGUE, "base 1;" + "on 0;".repeat(6) + "on 9;", 3, 32);
         faulty(CATALOGUE, "base 1;" + "on 0;".repeat(6) + "!", 1, 37);
     }
@@ -228,6 +254,7 @@ public final class TextTest {
         places();
         refusals();
         tokens();
+        leftovers();
         catalogueNumbers();
         houseNumbers();
         skyNumbers();

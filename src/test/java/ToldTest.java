@@ -151,6 +151,88 @@ public final class ToldTest {
         seeSecond(x);
     }
 
+    private static void theTapeInAnImage() {
+        LadderSky x = new LadderSky();
+        Due.tape(x, "base 77;");
+        x.image(2);
+        x.end(0);
+        Due.tape(x, "away 5;");
+        Due.due("as an image has it", x.again(2) && x.text(0, -1) == 0, true);
+        Due.due("its text", x.about(0, 10), 177);
+        Due.due("again", x.again(2) && x.count(0) == 0 && x.end(8) == 8, true);
+    }
+
+    private static void sayingsInAnImage() {
+        LadderSky x = Due.told("base 1000;away 9;has 0 0 1 5;", "use 0;", "");
+        x.say(0, 1, 8999, 9001);
+        x.image(0);
+        LadderSky y = Due.told("", "");
+        Due.due("another object has none", y.again(0), false);
+        x.say(0, 7, 1, 2);
+        x.image(1);
+        Due.due("back", x.again(0), true);
+        Due.due("one", x.count(3), 1);
+        x.say(1, 9, 3, 4);
+        int[] due = {1, 0, 1, 9};
+        see(x, due);
+        Due.due("forth", x.again(1), true);
+        see(x, new int[] {1, 0, 1, 7});
+        // the first image stays, whatever is said anew
+        Due.due("back", x.again(0), true);
+        Due.due("one", x.kept(0, 31), -1);
+        x.image(2);
+        Due.tell(x, 1, 0, "");
+        Due.due("forth", x.again(2), true);
+        Due.due("its house", x.kept(0, 10), 1);
+        Due.due("its year", x.kept(0, 30), 1);
+        LadderSky z = Due.told("base 1000;away 9;has 0 0 1 5;", "use 0;", "");
+        z.image(0);
+        z.say(1, 3, 3, 4);
+        z.image(1);
+        z.again(0);
+        z.say(0, 6, 9000, 9001);
+        Due.due("other numbers", z.kept(0, 30), -1);
+        z.again(1);
+        Due.due("as it was", z.kept(0, 30), 3);
+    }
+
+    private static void see(LadderSky x, int[] due) {
+        int[] got = {x.kept(0, 10), x.kept(0, 11), x.kept(0, 30), x.kept(0, 31)};
+        for (int i = 0; i < due.length; i++) {
+            Due.due("sayings, row " + i, got[i], due[i]);
+        }
+    }
+
+    private static void allThatMayBe() {
+        LadderSky x = new LadderSky();
+        for (int i = 0; i < 6; i++) {
+            Due.tell(x, 1, -1, "use " + i + ";");
+            Due.tell(x, 0, -1, "base " + (i + 1) + ";" + "stone 5;".repeat(4) + "away 6;".repeat(24) + "base 7;".repeat(5));
+            Due.tell(x, 2, -1, ("light " + (i + 1) + " 1;").repeat(6));
+        }
+        for (int i = 0; i < 16; i++) {
+            Due.due("say", x.say(i % 6, i, i, i + 1), i);
+        }
+        for (int k = 0; k < 3; k++) {
+            Due.due("image", x.image(k), true);
+        }
+        Due.tell(x, 0, 2, "");
+        Due.tell(x, 1, 5, "");
+        Due.tell(x, 2, 2, "light 9 9;");
+        for (int k = 2; k >= 0; k--) {
+            Due.due("again", x.again(k), true);
+            Due.due("catalogue", x.about(2, 10), 103);
+            Due.due("things", x.speed(2, 23), 6);
+            Due.due("stones", x.about(2, 23), 5);
+            Due.due("house", x.of(5, 0), 32);
+            Due.due("sky", x.sky(2, 15), 3);
+            Due.due("saying", x.kept(0, 45), 15);
+            Due.due("rung 5", x.has(2, 23, 5, 1, 1), true);
+            Due.due("worst", x.worst(2, 5, 1), -1);
+            Due.due("path", x.path(2, 5, 4, 1, 5), -2000000000L);
+        }
+    }
+
     private static void seeFirst(LadderSky x) {
         int[] got = {x.count(0), x.count(1), x.count(2), x.count(3), x.fault(0), x.fault(1), x.about(0, 0), x.about(0, 10), x.about(0, 2),
             x.about(0, 20), x.speed(0, 0), x.entry(0, 0, 0, false), x.entry(0, 0, 0, true), x.of(0, 0), x.of(0, 2), x.of(0, 3), x.of(0, 10),
@@ -178,6 +260,9 @@ public final class ToldTest {
         leansAndCasts();
         counts();
         images();
+        theTapeInAnImage();
+        sayingsInAnImage();
+        allThatMayBe();
         Due.close("ToldTest");
     }
 }
