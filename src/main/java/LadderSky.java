@@ -52,7 +52,7 @@ public final class LadderSky {
     private final Catalogue draftCatalogue = new Catalogue();
     private final House draftHouse = new House();
     private final Sky draftSky = new Sky();
-    private final Survey survey = new Survey(draftCatalogue, draftHouse);
+    private final Survey survey = new Survey();
     private final Ratios ratios = new Ratios();
     private final Chronicle chronicle = new Chronicle();
     private final Orders orders = new Orders();
@@ -1614,8 +1614,9 @@ public final class LadderSky {
 
     /** A catalogue as a house sees it by a year: the ladder, the fars, and the sums of the line through them. */
     private static final class Survey {
-        Catalogue catalogue;
-        House house;
+        /** Empty ones at first, so that there is always something to look at. */
+        Catalogue catalogue = new Catalogue();
+        House house = new House();
         int year;
         final int[] scales = new int[MOST_RUNGS];
         final int[] fars = new int[MOST_THINGS];
@@ -1626,11 +1627,6 @@ public final class LadderSky {
         private long sumVV;
         private long sumVD;
         private long sumDD;
-
-        Survey(Catalogue anyCatalogue, House anyHouse) {
-            catalogue = anyCatalogue;
-            house = anyHouse;
-        }
 
         void look(Catalogue c, House h, int by) {
             catalogue = c;
@@ -2074,18 +2070,18 @@ public final class LadderSky {
                     n++;
                 }
             }
-            return countFrom(0, 0, 0);
+            return countFrom(this, 0, 0, 0);
         }
 
-        /** The depth is the number of speeds that have a far, so at most MOST_ORDERED. */
-        private int countFrom(int depth, int taken, long sum) {
-            if (depth >= n) {
-                return sum >= goal ? 1 : 0;
+        /** The depth is how many speeds have a far by now, so at most MOST_ORDERED. */
+        private static int countFrom(Orders row, int depth, int taken, long sum) {
+            if (depth >= row.n || depth >= MOST_ORDERED) {
+                return sum >= row.goal ? 1 : 0;
             }
             int found = 0;
-            for (int i = 0; i < n; i++) {
+            for (int i = 0; i < row.n; i++) {
                 if ((taken >> i & 1) == 0) {
-                    found += countFrom(depth + 1, taken | 1 << i, sum + speeds[depth] * fars[i]);
+                    found += countFrom(row, depth + 1, taken | 1 << i, sum + row.speeds[depth] * row.fars[i]);
                 }
             }
             return found;
