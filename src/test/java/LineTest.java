@@ -74,6 +74,10 @@ public final class LineTest {
         for (int[] w : wrong) {
             Due.due("far of none", x.far(w[0], w[1], w[2], w[3], w[4]), -1);
         }
+        // steps of the catalogue that stood there before do not stay
+        LadderSky z = Due.told("base 1;on 0;on 1;", "use 2;use 3;way last;");
+        Due.due("in its place", Due.tell(z, 0, 0, "base 1000;base 1000;base 1000;on 0;away 1;has 0 0 4 0;has 0 2 9 0;has 0 3 2 0;"), 0);
+        Due.due("rung 3 is last", z.far(0, 0, 0, 0, -1), 4);
         // of two with one step and one rung known later
         LadderSky y = Due.told("base 1000;base 1000;away 1;has 0 0 5 9;has 0 1 7 0;", "use 0;use 1;", "use 0;use 1;way last;");
         Due.due("ahead of 9", y.far(0, 0, 8, 0, -1), 7);
