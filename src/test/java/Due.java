@@ -4,8 +4,8 @@ import java.util.Arrays;
 
 /** What the tests share: holding answers against what is due, and telling texts by the tape. */
 final class Due {
-    private static int right = 0;
-    private static int wrong = 0;
+    private static long right = 0;
+    private static long wrong = 0;
 
     private Due() {
     }
@@ -21,6 +21,14 @@ final class Due {
 
     static void due(String call, boolean got, boolean want) {
         due(call, got ? 1 : 0, want ? 1 : 0);
+    }
+
+    static long asked() {
+        return right + wrong;
+    }
+
+    static long wrong() {
+        return wrong;
     }
 
     /** Ends the test; call it last. */
