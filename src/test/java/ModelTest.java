@@ -30,7 +30,8 @@ public final class ModelTest {
         full = random.nextInt(20) == 0;
     }
 
-    private static Map<String, Method> methods(Class<?> of) {
+    /** The calls of either class by their names. */
+    static Map<String, Method> methods(Class<?> of) {
         Map<String, Method> all = new HashMap<>();
         for (Method m : of.getDeclaredMethods()) {
             if (of == PlainSky.class && java.lang.reflect.Modifier.isPrivate(m.getModifiers())) {
@@ -44,7 +45,8 @@ public final class ModelTest {
         return all;
     }
 
-    private static long answer(Object of, Method m, int[] args) throws IllegalAccessException, InvocationTargetException {
+    /** A boolean counts 1 or 0, as an answer and as an argument. */
+    static long answer(Object of, Method m, int[] args) throws IllegalAccessException, InvocationTargetException {
         Object[] given = new Object[args.length];
         for (int i = 0; i < args.length; i++) {
             if (m.getParameterTypes()[i] == boolean.class) {

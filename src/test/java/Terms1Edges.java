@@ -144,6 +144,10 @@ final class Terms1Edges {
         LadderSky x = Due.told("base 1;away 1;away 1;has 0 0 5 0;has 1 0 5 99;");
         Due.due("0", x.entry(0, 0, 0, true), 0);
         Due.due("99", x.entry(0, 1, 0, true), 99);
+        // of the last thing by the last rung, too
+        LadderSky y = Due.told("away 1;".repeat(24) + "base 1;".repeat(6) + "has 23 5 9999 99;");
+        Due.due("the last raw", y.entry(0, 23, 5, false), 9999);
+        Due.due("the last year", y.entry(0, 23, 5, true), 99);
         Edge.faulty(CATALOGUE, "base 1;away 1;has 0 0 5 100;", 2, 24);
         Edge.faulty(CATALOGUE, "base 1;away 1;has 0 0 5 9999;", 2, 24);
     }
@@ -184,6 +188,13 @@ final class Terms1Edges {
         Due.due("at 499", y.fault(1), 499);
         Edge.faulty(CATALOGUE, most.substring(0, 499) + " ", 1, 500);
         Edge.faulty(CATALOGUE, most.substring(0, 499), 1, 499);
+        // a row of letters or digits that ends with the tape
+        Edge.faulty(CATALOGUE, " ".repeat(496) + "base", 1, 500);
+        Edge.faulty(CATALOGUE, " ".repeat(495) + "base1", 1, 500);
+        Edge.faulty(CATALOGUE, " ".repeat(491) + "base12345", 1, 495);
+        Edge.faulty(CATALOGUE, "a".repeat(500), 1, 0);
+        Edge.faulty(CATALOGUE, "9".repeat(500), 1, 0);
+        Edge.faulty(CATALOGUE, ";".repeat(500), 1, 0);
         LadderSky z = new LadderSky();
         Due.tape(z, " ".repeat(500));
         Due.due("a 501st byte", z.feed(0, 0, 0, 0, 0), -1);
@@ -500,6 +511,15 @@ final class Terms1Edges {
     private static void faultPlaces() {
         Edge.faulty(CATALOGUE, "  basic 1;", 1, 2);
         Edge.faulty(CATALOGUE, "base \n 0;", 2, 7);
+        // what an earlier text had behind this one's end is not of it
+        String[][] pairs = {{"base 12;", "base 1", "6"}, {"basex 1;", "base", "4"}, {"base  1;", "base ", "5"}, {"base 1;;", "base 1", "6"}};
+        for (String[] pair : pairs) {
+            LadderSky x = new LadderSky();
+            Due.tell(x, 0, -1, pair[0]);
+            Due.due("text " + pair[1] + " behind " + pair[0], Due.tell(x, 0, -1, pair[1]), -1);
+            Due.due("its fault", x.fault(0), 1);
+            Due.due("its place", x.fault(1), Integer.parseInt(pair[2]));
+        }
         Edge.faulty(CATALOGUE, "base", 1, 4);
         Edge.faulty(CATALOGUE, "base  \n", 1, 7);
         Edge.faulty(CATALOGUE, "base 1", 1, 6);
@@ -532,6 +552,10 @@ final class Terms1Edges {
         Edge.faulty(CATALOGUE, "12345", 1, 0);
         Edge.faulty(CATALOGUE, "away 1" + "0".repeat(400) + ";", 1, 5);
         Edge.faulty(CATALOGUE, "away 4294967297;", 1, 5);
+        // nor is it one where another token is due
+        Edge.faulty(CATALOGUE, "away 1 12345", 1, 7);
+        Edge.faulty(CATALOGUE, "away 1;12345;", 1, 7);
+        Edge.faulty(HOUSE, "way 12345;", 1, 4);
         // it is no token, so that it goes ahead of a number that can't be
         Edge.faulty(CATALOGUE, "base 0;away 12345;", 1, 12);
         Edge.faulty(HOUSE, "use 00001;", 1, 4);

@@ -142,6 +142,10 @@ final class Terms2Edges {
         Due.due("the least", x.far(0, 1, 0, 1, -1), 1);
         Due.due("step 1 ahead of step 2", x.far(0, 2, 0, 1, -1), 3);
         Due.due("two of step 1", x.far(0, 3, 0, 1, -1), 3);
+        // those of a catalogue that stood in the place before do not stay
+        LadderSky z = Due.told("base 1;on 0;on 1;", "use 2;use 3;way last;");
+        Due.due("in its place", Due.tell(z, 0, 0, "base 1000;base 1000;base 1000;on 0;away 1;has 0 0 4 0;has 0 2 9 0;has 0 3 2 0;"), 0);
+        Due.due("step 1 is the greatest", z.far(0, 0, 0, 0, -1), 4);
         // five steps, one on the other
         LadderSky y = Due.told("base 1000;on 0;on 1;on 2;on 3;on 4;away 1;has 0 0 9 0;has 0 1 9 0;has 0 2 9 0;has 0 3 9 0;has 0 4 9 0;has 0 5 9 0;",
             "use 0;use 5;way last;lean 5 up 50;", "use 0;use 5;lean 5 up 50;");
@@ -378,6 +382,14 @@ final class Terms2Edges {
         Due.due("the greater", y.worst(0, 0, 0), 2);
         LadderSky z = Due.told("base 1000;base 1000;away 1;has 0 1 1000 0;", "use 1;throw farther 1009;");
         Due.due("one without an up is none", z.worst(0, 0, 0), 0);
+        // two of 9 above 0, then four of 7 below
+        LadderSky w = Due.told("base 1000;".repeat(6) + "away 9000;away 9000;away 0;has 0 0 100 0;has 1 1 100 0;has 2 2 1000 0;has 2 3 1000 0;has 2 4 1000 0;has 2 5 1000 0;",
+            "use 0;use 1;use 2;use 3;use 4;use 5;way mean;");
+        int[] ups = {9, 9, -7, -7, -7, -7};
+        for (int rung = 0; rung < 6; rung++) {
+            Due.due("up " + rung, w.up(0, 0, 0, rung), ups[rung]);
+        }
+        Due.due("the least of the greatest", w.worst(0, 0, 0), 0);
         Due.due("no rungs", Due.told("", "").worst(0, 0, 0), -1);
     }
 }

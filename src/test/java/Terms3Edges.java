@@ -97,6 +97,10 @@ final class Terms3Edges {
         Due.due("10500 at the last: by 0", x.stands(0, 0, 0), 99);
         Due.due("500 is at most 4 of 100 of 10500? no, 420", x.stands(0, 0, 4), 99);
         Due.due("by 5, 525", x.stands(0, 0, 5), 0);
+        // 10504, then 10000
+        LadderSky v = Due.told("base 1000;base 1000;away 9990;has 0 0 951 0;has 0 1 999 5;", "use 0;use 1;way last;");
+        Due.due("504 is more than 5 of 100", v.stands(0, 0, 5), 5);
+        Due.due("504 is less than 6 of 100", v.stands(0, 0, 6), 0);
         // an H that is gone for a while
         LadderSky y = Due.told("base 1000;base 1000;base 1000;away 9;has 0 0 9 1;has 0 1 99 5;has 0 2 9 8;", "use 0;use 1;use 2;way last;throw farther 50;");
         Due.due("from 8 on", y.stands(0, 0, 100), 8);
@@ -162,7 +166,8 @@ final class Terms3Edges {
 
     private static void bestSplit() {
         int[][][] due = {{{5, 9}, {1}}, {{7, 7}, {1}}, {{0, 9, 9}, {1}}, {{0, 0, 9}, {2}}, {{0, 0, 0, 9}, {3}}, {{0, 9, 9, 9}, {1}}, {{1, 2, 3}, {1}}, {{1, 2, 3, 4}, {2}},
-            {{5, 5, 5, 5}, {1}}, {{0, 0, 1, 3}, {3}}, {{0, 2, 3, 3, 3, 3}, {1}}, {{0, 1, 2, 3, 4}, {2}}};
+            {{5, 5, 5, 5}, {1}}, {{0, 0, 1, 3}, {3}}, {{0, 2, 3, 3, 3, 3}, {1}}, {{0, 1, 2, 3, 4}, {2}}, {{0, 1, 2, 4}, {3}}, {{0, 2, 3, 4}, {1}},
+            {{3, 5, 6, 7}, {1}}, {{2, 2, 2, 3}, {3}}};
         for (int[][] d : due) {
             LadderSky x = ratios(d[0]);
             Due.due("n of " + java.util.Arrays.toString(d[0]), x.sorts(0, 0, 0, 1, 1), d[0].length);
@@ -198,6 +203,9 @@ final class Terms3Edges {
         Due.due("40000 at 200", y.seen(0, 200), 1);
         Due.due("29929 at 173", y.seen(0, 173), 10);
         Due.due("30276 at 174", y.seen(0, 174), 1);
+        // 80001 against 80000
+        Due.due("just not", Edge.sky("light 8 1;limit 8889;").seen(0, 3), 0);
+        Due.due("just", Edge.sky("light 8 1;limit 8888;").seen(0, 3), 1);
         LadderSky z = Edge.sky("light 1 1;light 999 1;limit 9999;");
         Due.due("9999 at 1", z.seen(0, 1), 2);
         Due.due("39996 at 2", z.seen(0, 2), 1);

@@ -80,6 +80,18 @@ final class Terms4Edges {
         Due.due("seven of nine", x.chance(0, 0, 0), 1);
         Due.due("two of nine", row(upTo(9), upTo(2)).chance(0, 0, 0), 1);
         Due.due("one of nine", row(upTo(9), upTo(1)).chance(0, 0, 0), -1);
+        Due.due("asked again it is the same", x.chance(0, 0, 0), 1);
+        // the last seven of 24
+        LadderSky y = row(upTo(24), new int[] {});
+        for (int thing = 17; thing < 24; thing++) {
+            y.has(0, thing, 0, thing, 0);
+        }
+        Due.due("the last seven", y.chance(0, 0, 0), 1);
+        Due.due("and again", y.chance(0, 0, 0), 1);
+        for (int thing = 17; thing < 22; thing++) {
+            y.cast(0, thing, true);
+        }
+        Due.due("the last two", y.chance(0, 0, 0), 1);
     }
 
     private static void atLeastAsMuch() {
@@ -225,6 +237,17 @@ final class Terms4Edges {
         for (int house = 0; house < due.length; house++) {
             Due.due("strait of house " + house, x.strait(0, house, 0), due[house]);
         }
+        // leans, casts and rules stay those of the house, whichever was asked or told before
+        LadderSky z = Due.told("base 1000;base 1000;away 100;away 200;away 999;has 0 0 10 0;has 1 0 20 0;has 0 1 10 0;has 1 1 40 0;has 2 0 1 0;has 2 1 99 0;",
+            "use 0;use 1;lean 1 down 50;cast 2;", "use 1;", "use 0;lean 0 up 50;lean 1 up 50;");
+        Due.due("0 without rung 1, 10000 without rung 0", z.strait(0, 0, 0), 1);
+        Due.due("of the other", z.strait(0, 1, 0), -1);
+        Due.due("again", z.strait(0, 0, 0), 1);
+        // a rung that the catalogue has not is none of its rungs
+        LadderSky w = Due.told("base 1000;base 1000;away 100;away 200;has 0 0 10 0;has 1 0 20 0;has 0 1 10 0;has 1 1 40 0;", "use 0;use 1;use 2;", "use 2;", "use 0;use 2;");
+        Due.due("among rungs 0 and 1", w.strait(0, 0, 0), 1);
+        Due.due("rung 2 alone", w.strait(0, 1, 0), -1);
+        Due.due("without rung 0 there is no low, and rung 2 is none", w.strait(0, 2, 0), -1);
         // without 1 and without 2 it is as narrow
         LadderSky y = Due.told("base 1000;base 1000;base 1000;away 100;away 200;has 0 0 10 0;has 1 0 30 0;has 0 1 10 0;has 1 1 30 0;has 0 2 10 0;has 1 2 30 0;", "use 0;use 1;use 2;", "use 1;use 2;");
         Due.due("all alike", y.strait(0, 0, 0), 0);
@@ -259,6 +282,11 @@ final class Terms4Edges {
         Due.due("not the cast", x.next(0, 1, 0), 1);
         Due.due("all others cast", x.next(0, 2, 0), -1);
         Due.due("no H without the cast", x.next(0, 3, 0), -1);
+        // thing 0 may be the one, and each is looked at without those looked at before
+        LadderSky y = Due.told("base 1000;away 20;away 10;toward 30;away 29;has 1 0 1 0;", "use 0;", "use 0;cast 0;", "use 0;cast 0;cast 3;");
+        Due.due("0, 40000, 4500", y.next(0, 0, 0), 0);
+        Due.due("40000, 4500", y.next(0, 1, 0), 3);
+        Due.due("40000", y.next(0, 2, 0), 2);
         x.has(0, 2, 0, 1, 5);
         Due.due("ahead of 5", x.next(0, 0, 4), 2);
         Due.due("by 5 it has a far", x.next(0, 0, 5), 1);

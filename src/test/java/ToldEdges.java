@@ -405,12 +405,40 @@ final class ToldEdges {
             Due.due("its text", x.text(0, -1), 2);
             Due.due("its base", x.about(2, 10), 177);
         }
+        fullImage();
         // of an object that has nothing, too
         LadderSky y = new LadderSky();
         Due.due("an empty image", y.image(1), true);
         Due.tell(y, 0, -1, "base 1;");
         Due.due("again", y.again(1), true);
         Due.due("nothing", y.count(0), 0);
+    }
+
+    /** As many of each as may be, and the last of each is in the image. */
+    private static void fullImage() {
+        LadderSky x = new LadderSky();
+        for (int i = 0; i < 6; i++) {
+            Due.tell(x, 1, -1, "use " + i + ";");
+            Due.tell(x, 0, -1, "base " + (i + 1) + ";" + "stone 5;".repeat(4) + "away 6;".repeat(24) + "base 7;".repeat(5) + "has 23 5 8 9;");
+            Due.tell(x, 2, -1, ("light " + (i + 1) + " 1;").repeat(6));
+        }
+        for (int i = 0; i < 16; i++) {
+            Due.due("say", x.say(i % 6, i, i, i + 1), i);
+        }
+        for (int k = 0; k < 3; k++) {
+            Due.due("image", x.image(k), true);
+        }
+        Due.tell(x, 0, 2, "");
+        Due.tell(x, 1, 5, "");
+        Due.tell(x, 2, 2, "light 9 9;");
+        for (int k = 2; k >= 0; k--) {
+            Due.due("again", x.again(k), true);
+            int[] got = {x.about(2, 10), x.speed(2, 23), x.about(2, 23), x.entry(2, 23, 5, false), x.entry(2, 23, 5, true), x.of(5, 0), x.sky(2, 15), x.kept(0, 45)};
+            int[] due = {103, 6, 5, 8, 9, 32, 3, 15};
+            for (int i = 0; i < due.length; i++) {
+                Due.due("the last of each, row " + i, got[i], due[i]);
+            }
+        }
     }
 
     private static void otherImages() {
@@ -440,6 +468,16 @@ final class ToldEdges {
         Due.due("again 2", x.again(2) && x.about(0, 10) == 101, true);
         Due.due("again 1", x.again(1) && x.about(0, 10) == 150 && x.count(0) == 1, true);
         Due.due("again 0", x.again(0) && x.about(0, 10) == 101 && x.count(0) == 1, true);
+        // sayings, too: another one in the same place is not that of the image
+        LadderSky y = some();
+        y.image(0);
+        y.say(1, 7, 1, 2);
+        y.image(1);
+        Due.due("none yet", y.again(0) && y.count(3) == 0, true);
+        y.say(1, 9, 1, 2);
+        Due.due("until of the other", y.kept(0, 30), 9);
+        Due.due("again 1", y.again(1), true);
+        Due.due("until of the first", y.kept(0, 30), 7);
         // a change behind it leaves the image
         x.again(1);
         Due.tell(x, 0, 0, "base 60;");
