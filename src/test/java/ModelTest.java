@@ -328,7 +328,8 @@ public final class ModelTest {
         if (below(2) == 0) {
             call("make", 0, -1, random.nextInt());
         }
-        while (calls < (full ? 500 : 380)) {
+        // a text may take some thirty calls more, and an object is good for 512
+        while (calls < (full ? 480 : 380)) {
             if (below(6) == 0) {
                 change();
             } else {
